@@ -716,6 +716,15 @@ public final class LastLoses {
             return taken >= 1 && taken <= digitTotal && taken <= digits.length ? digits[taken - 1] : 0;
         }
 
+        /** Where a HEAP's MOVES begin in the row of all; behind the last HEAP, where the row ends. */
+        int firstMove(int heap) {
+            return heap >= 1 && heap <= BASE ? moveStart[heap] : 0;
+        }
+
+        int packedAt(int index) {
+            return index >= 0 && index < MOST_MOVES ? packedMoves[index] : 0;
+        }
+
         int moveCount(int heap) {
             return isHeap(heap) ? moveStart[heap + 1] - moveStart[heap] : 0;
         }
@@ -844,12 +853,10 @@ public final class LastLoses {
         Positions() {
             countWays();
             int size = 0;
-            int[] heaps = new int[BASE];
             for (int beans = 0; beans <= MOST_BEANS; beans++) {
                 for (int p = firstOf[beans]; p < firstOf[beans + 1] && p < TOTAL; p++) {
                     partStart[p] = size;
-                    unrank(p, beans, heaps);
-                    size = linkParts(p, beans, heaps, size);
+                    size = linkParts(p, beans, size);
                 }
             }
             partStart[TOTAL] = size;
@@ -876,44 +883,43 @@ public final class LastLoses {
             return told ? ways[heap * (MOST_BEANS + 1) + beans] : 0;
         }
 
-        private void unrank(int p, int beans, int[] heaps) {
-            int ahead = p - firstOf[beans];
-            int left = beans;
-            for (int heap = 1; heap <= BIGGEST; heap++) {
-                heaps[heap] = 0;
-                for (int rounds = left; rounds > 0 && ahead >= waysOf(heap + 1, left); rounds--) {
-                    ahead -= waysOf(heap + 1, left);
-                    left -= heap;
-                    heaps[heap]++;
+        /**
+         * Of so many BEANS, those without HEAPS below h come first, so one that has h as its least
+         * HEAP stands as far behind those without it as what is left of it stands in its own row.
+         */
+        private int linkParts(int p, int beans, int size) {
+            int row = p - firstOf[beans];
+            for (int least = 1; least <= BIGGEST && least <= beans; least++) {
+                int ahead = waysOf(least + 1, beans);
+                if (row >= ahead) {
+                    int rest = firstOf[beans - least] + row - ahead;
+                    return linkOthers(p, least, rest, link(p, least, rest, size));
                 }
             }
+            return size;
         }
 
-        private int rank(int[] heaps, int beans) {
-            int p = firstOf[beans];
-            int left = beans;
-            for (int heap = 1; heap <= BIGGEST; heap++) {
-                for (int i = 0; i < heaps[heap]; i++) {
-                    p += waysOf(heap + 1, left);
-                    left -= heap;
-                }
-            }
-            return p;
-        }
-
-        private int linkParts(int p, int beans, int[] heaps, int size) {
+        // p without a HEAP above its least is what is left, without that HEAP, with the least again
+        private int linkOthers(int p, int least, int rest, int size) {
             int then = size;
-            for (int heap = 1; heap <= BIGGEST && heap <= beans; heap++) {
-                if (heaps[heap] > 0 && then < LINKS) {
-                    heaps[heap]--;
-                    int rest = rank(heaps, beans - heap);
-                    heaps[heap]++;
-                    parts[then] = SPLIT * heap + rest;
-                    joined[joinStart[heap] + rest] = p;
-                    then++;
+            int end = endPart(rest);
+            for (int part = firstPart(rest); part < end; part++) {
+                int heap = heapOf(part);
+                if (heap != least) {
+                    then = link(p, heap, join(restOf(part), least), then);
                 }
             }
             return then;
+        }
+
+        private int link(int p, int heap, int rest, int size) {
+            int joint = joinStart[heap] + rest;
+            if (size >= LINKS || joint < 0 || joint >= LINKS) {
+                return size;
+            }
+            parts[size] = SPLIT * heap + rest;
+            joined[joint] = p;
+            return size + 1;
         }
 
         private static boolean isPosition(int p) {
@@ -925,7 +931,7 @@ public final class LastLoses {
             if (heap == 0) {
                 return p;
             }
-            if (!isHeap(heap) || p < 0 || p >= firstOf[MOST_BEANS + 1 - heap]) {
+            if (heap < 0 || heap > BIGGEST || p < 0 || p >= firstOf[MOST_BEANS + 1 - heap]) {
                 return NONE;
             }
             return joined[joinStart[heap] + p];
@@ -1023,9 +1029,9 @@ public final class LastLoses {
             for (int part = positions.firstPart(p); part < end; part++) {
                 int heap = positions.heapOf(part);
                 int rest = positions.restOf(part);
-                int last = rules.moveCount(heap);
-                for (int k = 0; k < last && length < targets.length; k++) {
-                    int packed = rules.moveAt(heap, k);
+                int endMove = rules.firstMove(heap + 1);
+                for (int k = rules.firstMove(heap); k < endMove && length < targets.length; k++) {
+                    int packed = rules.packedAt(k);
                     int withOne = positions.join(rest, packed / BASE);
                     targets[length] = positions.join(withOne, packed % BASE);
                     codes[length] = HEAP_DIGIT * heap + packed;
