@@ -366,7 +366,9 @@ public final class LastLoses {
             return null;
         }
         Quotient quotient = board.quotients[n - 1];
-        quotient.build();
+        if (quotient != null) {
+            quotient.build();
+        }
         return quotient;
     }
 
@@ -1743,7 +1745,9 @@ public final class LastLoses {
             hand.empty();
             values.forget();
             for (int i = 0; i < QUOTIENTS; i++) {
-                quotients[i].forget();
+                if (quotients[i] != null) {
+                    quotients[i].forget();
+                }
             }
             oddOne = UNSEEN;
             wildOne = UNSEEN;

@@ -192,9 +192,10 @@ public final class QuotientPromisesTest {
         Check.due("pairs 1", x.pairs(1), 3);
         Check.due("pairs 2", x.pairs(2), 12);
         Check.due("proved 2", x.proved(2), 2);
-        // tests of at most 7 beans can't tell 4 and 4 from none in Dawson's Kayles: 2 4 4 loses there
+        // tests of at most 7 beans tell too little apart here: 4 and 4 are taken for 2
         LastLoses y = Check.told("octal .07");
         Check.due("Dawson's pairs", y.pairs(4), 11);
+        Check.due("4 and 4 are where 2 is", y.next(4, y.next(4, 0, 4), 4), y.next(4, 0, 2));
         Check.due("steady, but not proved", y.proved(4), 1);
         LastLoses z = Check.told(UNSTEADY);
         Check.due("not steady", z.proved(6), 0);

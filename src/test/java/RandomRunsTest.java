@@ -72,8 +72,12 @@ public final class RandomRunsTest {
                 tellGame(random.nextInt(3) > 0);
             } else if (kind < 5) {
                 tellHeaps();
-            } else if (kind < 30) {
+            } else if (kind < 25) {
                 play();
+            } else if (kind < 40) {
+                study();
+            } else if (kind < 45) {
+                compare();
             } else {
                 anyCall();
             }
@@ -129,6 +133,34 @@ public final class RandomRunsTest {
         } else {
             call(random.nextInt(4) == 0 ? "clear" : "reply");
         }
+    }
+
+    private void study() throws ReflectiveOperationException {
+        int n = 1 + random.nextInt(6);
+        call("elements", n);
+        int size = Math.max(1, model.elements(n));
+        int one = random.nextInt(size + random.nextInt(2));
+        int other = random.nextInt(size);
+        call("word", n, one, random.nextInt(n + 1));
+        call("next", n, one, 1 + random.nextInt(n));
+        call("times", n, one, other);
+        call("sets", n, random.nextInt(4));
+        call("power", n, other, random.nextInt(2));
+        call(List.of("pairs", "proved", "stays").get(random.nextInt(3)), n);
+    }
+
+    private void compare() throws ReflectiveOperationException {
+        call("clear");
+        for (int i = random.nextInt(3); i >= 0; i--) {
+            call("put", 1 + random.nextInt(7));
+        }
+        int k = random.nextInt(3);
+        call("simplest", random.nextInt(8));
+        call("keep", k);
+        call(random.nextBoolean() ? "reply" : "undo");
+        call("put", 1 + random.nextInt(4));
+        call("apart", k, random.nextInt(8));
+        call("apart", random.nextInt(3), random.nextInt(8));
     }
 
     private void tellHeaps() throws ReflectiveOperationException {
