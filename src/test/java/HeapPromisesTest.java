@@ -107,6 +107,10 @@ public final class HeapPromisesTest {
         period("octal .72", 4, 1);
         period("octal .123", 5, 5);
         period("octal .34", 8, 7);
+        // 2 * 37 + 2 * 40 + 6 is just 160; with a digit more it is 161
+        period("octal .534347", 40, 37);
+        period("octal .5376760", -2, -2);
+        period("octal .043", 60, 16);
         // Kayles and Dawson's Kayles: twelve behind 70, thirty-four behind 52, both too far
         period("octal .77", -2, -2);
         period("octal .07", -2, -2);
@@ -120,6 +124,9 @@ public final class HeapPromisesTest {
         Check.due("and so for heaps", x.odd(12), -2);
         Check.heaps("Kayles", Check.told("octal .77")::odd, KAYLES_ODD);
         Check.heaps("Dawson's Kayles", Check.told("octal .07")::odd, DAWSON_ODD);
+        LastLoses late = Check.told("octal .170;never 2 2", 1, 12);
+        Check.due("1 and 12 are not like nim", late.state(5), 0);
+        Check.due("but they are 13", late.odd(0), -2);
         for (int heap : new int[] {13, -1, Integer.MAX_VALUE, Integer.MIN_VALUE}) {
             Check.due("odd " + heap, x.odd(heap), -1);
             Check.due("wild " + heap, x.wild(heap), -1);

@@ -216,6 +216,11 @@ public final class QuotientPromisesTest {
         Check.due("stays 1", y.stays(1), 1);
         Check.due("stays 2", y.stays(2), 6);
         Check.due("stays 6", y.stays(6), 6);
+        // as many elements, and lost alike, but not by the same heaps
+        LastLoses z = Check.told("octal .31;never 3 2;never 9 1");
+        Check.due("as many", z.elements(4), z.elements(3));
+        Check.due("lost alike", z.sets(4, 0), z.sets(3, 0));
+        Check.due("next is not alike", z.stays(3), 3);
     }
 
     private static void place() {
