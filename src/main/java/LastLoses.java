@@ -1718,6 +1718,7 @@ public final class LastLoses {
         private static final int UNSEEN = -2;
         private static final int DRAW_FACTOR = 1103515245;
         private static final int DRAW_STEP = 12345;
+        private static final int DRAW_MASK = 2147483647;
 
         private final Rules rules = new Rules();
         private final Cycle cycle = new Cycle();
@@ -1855,7 +1856,7 @@ public final class LastLoses {
                 int before = made;
                 int all = movesOf(p);
                 for (int step = 0; step < MOST_BEANS && all > 0; step++) {
-                    drawn = drawn * DRAW_FACTOR + DRAW_STEP & Integer.MAX_VALUE;
+                    drawn = drawn * DRAW_FACTOR + DRAW_STEP & DRAW_MASK;
                     p = afterMove(p, drawn / 65536 % all);
                     made++;
                     all = movesOf(p);

@@ -183,6 +183,11 @@ public final class HandPromisesTest {
         genus(TWO, of(2, 2), 0, 2, 0);
         genus(NIM, of(8, 7), 15, 13, 15);
         genus(KAYLES, of(5), 1, 4, 6);
+        // not tame by one number of the three alone
+        genus("octal .774;never 6 2", of(7), 6, 5, 6);
+        Check.due("6 with 6 5 6 is not tame", Check.told("octal .774;never 6 2", 7).state(8), 0);
+        genus("octal .3126", of(5, 6, 7), 5, 7, 2);
+        Check.due("5 with 5 7 2 is not tame", Check.told("octal .3126", 5, 6, 7).state(8), 0);
     }
 
     private static void line(String game, int[] heaps, int... want) {
@@ -288,6 +293,9 @@ public final class HandPromisesTest {
         x.keep(2);
         x.clear();
         Check.due("16 beans kept", x.apart(2, 0), -3);
+        Check.put(x, 12, 4);
+        Check.due("16 beans, the first of these", x.apart(0, 0), -3);
+        Check.due("simplest of these", x.simplest(0), -3);
         // beside less than 6 BEANS both win
         LastLoses y = Check.told(NIM, 6);
         y.keep(0);

@@ -18,8 +18,7 @@ public final class LanguageTest {
         "\\bthrow\\b", "\\bthrows\\b", "\\btry\\b", "\\bcatch\\b", "\\bsynchronized\\b", "\\bassert\\b", "->", "::",
         "\\bpackage\\b", "\\bprotected\\b", "\\bdouble\\b", "\\bfloat\\b", "\\bThread\\b", "\\bRandom\\b", "Exact\\b",
         "\\bhashCode\\b", "\\bvar\\b", "static \\{"};
-    private static final Set<String> LIBRARY = Set.of("System.arraycopy", "Arrays.fill", "Math.min", "Math.max",
-            "Integer.MAX_VALUE");
+    private static final Set<String> LIBRARY = Set.of("System.arraycopy", "Arrays.fill", "Math.min", "Math.max");
     private static final String FACE = """
             answers(int) apart(int,int) clear() count(int) draws(int) elements(int) end(int)
             feed(int,int,int,int,int) game() games(int,int) genus(int) hand(int) keep(int) line(int)

@@ -12,6 +12,7 @@ public final class QuotientPromisesTest {
         tameSets();
         tamePowers();
         orders();
+        sixteen();
         unknown();
         wrongNumbers();
         proofs();
@@ -141,6 +142,19 @@ public final class QuotientPromisesTest {
         for (int n = 1; n <= 6; n++) {
             Check.due(".75 " + n, y.elements(n), eight[n - 1]);
         }
+    }
+
+    private static void sixteen() {
+        LastLoses x = Check.told("octal .3354;also 6 to 2 2;never 4 1;never 6 2");
+        Check.due("as many as can be", x.elements(6), 16);
+        Check.due("lost", x.sets(6, 0), 9234);
+        Check.due("kernel", x.sets(6, 1), 20624);
+        Check.due("units", x.sets(6, 2), 3);
+        Check.due("idle", x.sets(6, 3), 1041);
+        Check.due("pairs", x.pairs(6), 70);
+        Check.due("proved", x.proved(6), 2);
+        Check.due("the last one", x.word(6, 15, 0) > 0 ? 1 : 0, 1);
+        Check.due("none behind it", x.word(6, 16, 0), -1);
     }
 
     private static void unknown() {
