@@ -121,7 +121,7 @@ public final class LastLoses {
         if (rest < 0) {
             return NONE;
         }
-        int then = board.positions.joinTwo(rest, a, b);
+        int then = board.positions.joinMove(rest, BASE * a + b);
         board.hand.become(then);
         return board.values.loses(then) ? 0 : 1;
     }
@@ -939,8 +939,18 @@ public final class LastLoses {
             return joined[joinStart[heap] + p];
         }
 
-        int joinTwo(int p, int a, int b) {
-            return join(join(p, a), b);
+        /** What was left of a POSITION, with both HEAPS of a MOVE; in one piece, for it is asked most. */
+        int joinMove(int p, int packed) {
+            int a = packed / BASE;
+            int b = packed % BASE;
+            if (p < 0 || a < 0 || b < 0 || a > BIGGEST || p >= firstOf[MOST_BEANS + 1 - a]) {
+                return NONE;
+            }
+            int withOne = a == 0 ? p : joined[joinStart[a] + p];
+            if (withOne >= firstOf[MOST_BEANS + 1 - b]) {
+                return NONE;
+            }
+            return b == 0 ? withOne : joined[joinStart[b] + withOne];
         }
 
         int joinAll(int p, int other) {
@@ -1034,8 +1044,7 @@ public final class LastLoses {
                 int endMove = rules.firstMove(heap + 1);
                 for (int k = rules.firstMove(heap); k < endMove && length < targets.length; k++) {
                     int packed = rules.packedAt(k);
-                    int withOne = positions.join(rest, packed / BASE);
-                    targets[length] = positions.join(withOne, packed % BASE);
+                    targets[length] = positions.joinMove(rest, packed);
                     codes[length] = HEAP_DIGIT * heap + packed;
                     length++;
                 }
@@ -1101,20 +1110,29 @@ public final class LastLoses {
         }
 
         private int judgeOptions() {
-            int soonest = MOST_BEANS;
+            int[] targets = options.targets;
+            int size = options.length;
+            // twice REMOTE, as outcomes are: those that LOSE are even
+            int soonest = 2 * MOST_BEANS;
             int latest = 0;
-            boolean wins = options.size() == 0;
-            for (int i = 0; i < options.size(); i++) {
-                int target = options.target(i);
+            boolean wins = size == 0;
+            for (int i = 0; i < size && i < targets.length; i++) {
+                int target = targets[i];
                 int outcome = target >= 0 ? outcomes[target] : 0;
-                latest = Math.max(latest, 1 + outcome / 2);
-                if (outcome % 2 == 0) {
+                if (outcome > latest) {
+                    latest = outcome;
+                }
+                if ((outcome & 1) == 0) {
                     wins = true;
-                    soonest = Math.min(soonest, 1 + outcome / 2);
+                    if (outcome < soonest) {
+                        soonest = outcome;
+                    }
                 }
             }
-            int remote = wins && options.size() > 0 ? soonest : latest;
-            return 2 * remote + (wins ? 1 : 0);
+            if (wins) {
+                return size == 0 ? 1 : soonest + 3;
+            }
+            return (latest & -2) + 2;
         }
 
         boolean loses(int p) {
@@ -1155,12 +1173,13 @@ public final class LastLoses {
         }
 
         private int judgeGenera() {
+            int[] targets = options.targets;
             Arrays.fill(seen, 0);
-            for (int i = 0; i < options.size(); i++) {
-                int target = options.target(i);
-                int packed = target >= 0 ? genera[target] : 0;
+            for (int i = 0; i < options.length && i < targets.length; i++) {
+                int packed = targets[i] >= 0 ? genera[targets[i]] : 0;
                 for (int beside = 0; beside < BESIDES; beside++) {
-                    seen[beside] |= 1 << (packed >> GENUS_BITS * beside & GENUS_MASK);
+                    seen[beside] |= 1 << (packed & GENUS_MASK);
+                    packed >>= GENUS_BITS;
                 }
             }
             int found = 0;
@@ -1886,7 +1905,7 @@ public final class LastLoses {
                 int all = positions.countOf(p, heap) * each;
                 if (left < all && each > 0) {
                     int packed = rules.moveAt(heap, left % each);
-                    return positions.joinTwo(positions.restOf(part), packed / BASE, packed % BASE);
+                    return positions.joinMove(positions.restOf(part), packed);
                 }
                 left -= all;
             }
