@@ -1,20 +1,97 @@
 import java.nio.charset.StandardCharsets;
 import java.util.Arrays;
+import java.util.function.IntSupplier;
+import java.util.function.IntUnaryOperator;
 
 /** What the tests of the promises share: comparing answers, and telling texts as bytes. */
 final class Check {
+    static final String NO_MOVES = "octal .0";
+    static final String TAKE_ONE = "octal .3";
+    static final String TWO = "octal .33";
+    static final String NIM = "octal .33333333";
+    static final String KAYLES = "octal .77";
+    static final String DAWSON = "octal .07";
+
+    private static final int[] FAR = {-1, Integer.MIN_VALUE, Integer.MAX_VALUE};
+
     private static int wrong;
     private static int checks;
+    private static String held = "";
 
     private Check() {
+    }
+
+    /** The words that the answers to come are held against; they stand ahead of every complaint. */
+    static void hold(String words) {
+        held = words + ": ";
+    }
+
+    static int checks() {
+        return checks;
+    }
+
+    static void fail(String what) {
+        checks++;
+        wrong++;
+        System.out.println(what);
     }
 
     static void due(String what, int got, int want) {
         checks++;
         if (got != want) {
             wrong++;
-            System.out.println(what + ": answered " + got + ", due is " + want);
+            System.out.println(held + what + ": answered " + got + ", due is " + want);
         }
+    }
+
+    static void none(String what, int... answers) {
+        for (int i = 0; i < answers.length; i++) {
+            due(what + ", call " + i, answers[i], LastLoses.NONE);
+        }
+    }
+
+    /** NONE for the numbers given, for -1, and for the least and the greatest number there are. */
+    static void outside(String what, IntUnaryOperator call, int... numbers) {
+        for (int number : numbers) {
+            due(what + " of " + number, call.applyAsInt(number), LastLoses.NONE);
+        }
+        for (int number : FAR) {
+            due(what + " of " + number, call.applyAsInt(number), LastLoses.NONE);
+        }
+    }
+
+    /** Every call answers so, and nothing that can be looked at is other than it was. */
+    static void refused(LastLoses x, String what, int want, IntSupplier... calls) {
+        int[] before = look(x);
+        for (int i = 0; i < calls.length; i++) {
+            due(what + ", call " + i, calls[i].getAsInt(), want);
+        }
+        int[] after = look(x);
+        for (int i = 0; i < before.length; i++) {
+            due(what + ", then look " + i, after[i], before[i]);
+        }
+    }
+
+    /** 29 calls that change nothing: the hand, all counts, some of the game, and what is kept. */
+    private static int[] look(LastLoses x) {
+        int[] seen = new int[29];
+        int size = 0;
+        for (int heap = 0; heap <= 12; heap++) {
+            seen[size++] = x.hand(heap);
+        }
+        for (int what = 0; what <= 5; what++) {
+            seen[size++] = x.count(what);
+        }
+        for (int heap : new int[] {1, 2, 5, 12}) {
+            seen[size++] = x.moves(heap);
+        }
+        for (int k = 0; k <= 2; k++) {
+            seen[size++] = x.apart(k, 0);
+        }
+        seen[size++] = x.simplest(0);
+        seen[size++] = x.state(1);
+        seen[size] = x.period(0);
+        return seen;
     }
 
     static void finish(String name) {
@@ -50,6 +127,15 @@ final class Check {
         return x;
     }
 
+    /** The text of a wrong game is told to a new object. */
+    static void fault(String text, int place, int kind) {
+        due("'" + text + "'", tellGame(new LastLoses(), text), -2 - (8 * place + kind));
+    }
+
+    static void lines(String text, int lines) {
+        due("'" + text + "'", tellGame(new LastLoses(), text), lines);
+    }
+
     static LastLoses told(String text, int... hand) {
         LastLoses x = told(text);
         put(x, hand);
@@ -63,7 +149,7 @@ final class Check {
     }
 
     /** The hand, or any answer by heap, told as its beans and then its heaps of 1 to 12. */
-    static void heaps(String what, java.util.function.IntUnaryOperator answer, int... heaps) {
+    static void heaps(String what, IntUnaryOperator answer, int... heaps) {
         int beans = 0;
         int[] counts = new int[13];
         for (int heap : heaps) {
