@@ -293,7 +293,7 @@ public final class HandPromisesTest {
         x.keep(2);
         x.clear();
         Check.due("16 beans kept", x.apart(2, 0), -3);
-        Check.put(x, 12, 4);
+        Check.put(x, 8, 8);
         Check.due("16 beans, the first of these", x.apart(0, 0), -3);
         Check.due("simplest of these", x.simplest(0), -3);
         // beside less than 6 BEANS both win

@@ -5,6 +5,7 @@ public final class Promise04Test {
         of.hold("The TAPE, which is empty then,", Promise04Test::tapeIsEmptyThen);
         of.hold("tells the GAME in place of the one there was", Promise04Test::inPlace);
         of.hold("tells the GAME in place of the one there was", Promise04Test::nothingFoundIsLeft);
+        of.hold("tells the GAME in place of the one there was", Promise04Test::periodsAnew);
         of.hold("(the HAND is empty, nothing is KEPT, nothing can be UNDONE; x stays)", Promise04Test::handIsEmpty);
         of.hold("(the HAND is empty, nothing is KEPT, nothing can be UNDONE; x stays)", Promise04Test::sameGameAgain);
         of.hold("how many LINES", Promise04Test::howManyLines);
@@ -25,14 +26,16 @@ public final class Promise04Test {
     }
 
     private static void inPlace() {
-        LastLoses x = Check.told("octal .77;also 3 to 0;never 2 2");
-        Check.due("told", x.moves(3), 4);
+        LastLoses x = Check.told("octal .77;also 3 to 0;never 2 1");
+        Check.due("also told", x.moves(3), 4);
+        Check.due("never told", x.moves(2), 1);
         Check.due("another", Check.tellGame(x, Check.TAKE_ONE), 1);
         Check.due("digits", x.count(0), 1);
         Check.due("lines more", x.count(1), 0);
         Check.due("no also of the old one", x.moves(3), 1);
-        Check.due("no never of the old one", x.moves(2), 1);
+        Check.due("no never of the old one", x.option(2, 0, 1), 1);
         Check.due("a period", x.period(0), 2);
+        Check.due("an end of it", x.period(1), 1);
     }
 
     private static void nothingFoundIsLeft() {
@@ -55,6 +58,20 @@ public final class Promise04Test {
         Check.due("loses", x.state(0), 0);
         Check.due("simplest", x.simplest(0), 1);
         Check.due("losers", x.losers(4, -1), 0);
+    }
+
+    private static void periodsAnew() {
+        LastLoses x = Check.told(Check.NIM);
+        Check.due("nine", x.period(0), 9);
+        Check.tellGame(x, Check.KAYLES);
+        Check.due("none", x.period(0), -2);
+        Check.tellGame(x, Check.NIM);
+        Check.due("nine again", x.period(0), 9);
+        Check.tellGame(x, "octal .201");
+        Check.due("two", x.period(0), 2);
+        Check.tellGame(x, "octal .534347");
+        Check.due("forty", x.period(0), 40);
+        Check.due("from 37 on", x.period(1), 37);
     }
 
     private static void handIsEmpty() {

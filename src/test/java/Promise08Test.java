@@ -30,6 +30,8 @@ public final class Promise08Test {
         period(Check.KAYLES, -2, -2);
         // thirty-four, but from 53 on
         period(Check.DAWSON, -2, -2);
+        // 2 * 52 + 2 * 26 + 5 would be 161
+        period("octal .11633", -2, -2);
     }
 
     private static void alsoOrNever() {

@@ -70,6 +70,11 @@ public final class Promise17Test {
         state(Check.NIM, 4, 3, 4, 5, 6);
         // 5 to 4, and to 2 and 2: both lose
         state(Check.KAYLES, 4, 2, 5);
+        LastLoses x = Check.told(Check.TWO, 2, 2, 2);
+        x.losers(22, -1);
+        Check.due("whatever was asked before", x.state(4), 3);
+        x.genus(2);
+        Check.due("whatever was asked between", x.state(4), 3);
     }
 
     private static void likeNim() {
@@ -85,6 +90,8 @@ public final class Promise17Test {
     private static void leastAndMost() {
         state(Check.NIM, 6, 0);
         state(Check.NIM, 7, 0);
+        state(Check.NIM, 6, 1, 1);
+        state(Check.NIM, 7, 1, 1);
         state(Check.NO_MOVES, 6, 0, 12, 10);
         state(Check.NO_MOVES, 7, 0, 12, 10);
         state(Check.TAKE_ONE, 6, 22, 12, 10);
@@ -126,6 +133,8 @@ public final class Promise17Test {
     private static void fullHand() {
         all(Check.told(Check.TAKE_ONE, 12, 10), "22 beans", 1, 22, 0, 1, 2, 1, 22, 22, 1);
         all(Check.told(Check.NO_MOVES, 12, 10), "22 beans that stay", 1, 0, 0, 1, 0, 1, 0, 0, 1);
+        LastLoses ones = Check.told(Check.TWO, 1, 1, 1, 1, 1, 1, 1, 1, 1, 1, 1, 1, 1, 1, 1, 1, 1, 1, 1, 1, 1, 1);
+        all(ones, "22 heaps of 1", 1, 22, 0, 1, 22, 1, 22, 22, 1);
         LastLoses moved = Check.told(Check.TAKE_ONE, 12, 10);
         moved.move(10, 0, 9);
         all(moved, "21 beans", 0, 21, 1, 0, 0, 1, 21, 21, 1);

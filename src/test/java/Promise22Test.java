@@ -72,9 +72,9 @@ public final class Promise22Test {
         Check.due("16 kept", x.apart(1, 0), -3);
         x.clear();
         Check.due("16 kept, the hand empty", x.apart(1, 1), -3);
-        // of 16 beans the first one is 4 12
-        Check.put(x, 12, 4);
-        Check.due("4 12", x.apart(0, 0), -3);
+        // of 16 beans the first one is 8 8
+        Check.put(x, 8, 8);
+        Check.due("8 8", x.apart(0, 0), -3);
         x.put(6);
         Check.due("22", x.apart(0, 0), -3);
         // of 15 beans the last one is fifteen heaps of 1

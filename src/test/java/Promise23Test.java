@@ -45,8 +45,8 @@ public final class Promise23Test {
         }
         x.put(6);
         Check.due("22", x.simplest(0), -3);
-        LastLoses first = Check.told(Check.TAKE_ONE, 12, 4);
-        Check.due("4 12, the first of 16", first.simplest(0), -3);
+        LastLoses first = Check.told(Check.TAKE_ONE, 8, 8);
+        Check.due("8 8, the first of 16", first.simplest(0), -3);
         LastLoses last = Check.told(Check.TAKE_ONE, 1, 1, 1, 1, 1, 1, 1, 1, 1, 1, 1, 1, 1, 1, 1);
         Check.due("fifteen heaps of 1, the last of 15", last.simplest(0), 1);
     }

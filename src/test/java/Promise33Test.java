@@ -36,6 +36,10 @@ public final class Promise33Test {
         for (int n = 1; n <= 6; n++) {
             Check.due("not steady from 5 on, " + n, x.proved(n), proved[n - 1]);
         }
+        // by a heap of 4 and another alone
+        LastLoses last = Check.told("octal .37;never 3 2");
+        Check.due("steady by 1 to 3", last.proved(3), 2);
+        Check.due("not by 4", last.proved(4), 0);
     }
 
     private static void unknown() {

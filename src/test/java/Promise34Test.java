@@ -27,10 +27,15 @@ public final class Promise34Test {
     private static void upToTheUnknown() {
         stays(Check.KAYLES, 1, 4, 4, 4, 5, -3);
         stays(Quotients.SEVENTEEN, 1, 2, 3, 5, 5, -3);
+        // unknown of 5, but not of 6
+        stays("octal .7101", 1, 4, 4, 4, -3, 6);
     }
 
     private static void notAtAll() {
         stays(Quotients.SIXTEEN, 1, 4, 4, 4, 5, 6);
+        // 1, 1, 2, 2, 4, 4 elements, of which one and the same is lost
+        stays("octal .4", 2, 2, 4, 4, 6, 6);
+        stays("octal .31", 1, 2, 3, 6, 6, 6);
     }
 
     private static void unknown() {

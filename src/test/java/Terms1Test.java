@@ -122,8 +122,13 @@ public final class Terms1Test {
         Check.fault("octal .3;also 3 tos 1", 16, 1);
         Check.fault("octal .3;also 3 t 1", 16, 1);
         Check.fault("Octal .3", 0, 1);
+        Check.fault("octala.3", 0, 1);
+        Check.fault("octalz.3", 0, 1);
         // the word ends where small letters do
         Check.fault("octalX.3", 5, 1);
+        Check.fault("octal`.3", 5, 1);
+        Check.fault("octal{.3", 5, 1);
+        Check.fault("octal\u00e9.3", 5, 1);
         Check.fault("octa", 0, 1);
         Check.lines("octal.3;also3to1;never3 1", 3);
     }

@@ -207,6 +207,8 @@ public final class Terms2Test {
         state("octal .774;never 6 2", 8, 0, 7);
         genus("octal .3126", of(5, 6, 7), 5, 7, 2);
         state("octal .3126", 8, 0, 5, 6, 7);
+        genus("octal .64", of(5, 10), 0, 7, 5);
+        state("octal .64", 8, 0, 5, 10);
         state("octal .06", 8, 0, 12);
         state(Check.KAYLES, 8, 0, 5);
     }
@@ -218,6 +220,10 @@ public final class Terms2Test {
         state(Check.NIM, 8, 1, 1, 1, 1);
         state(Check.NO_MOVES, 8, 1, 12, 10);
         state(Check.DAWSON, 8, 0, 10);
+        // of nimber 1, but its first is neither 1 nor 0
+        genus("octal .62", of(4, 6, 10), 4, 3, 1);
+        state("octal .62", 2, 1, 4, 6, 10);
+        state("octal .62", 8, 0, 4, 6, 10);
     }
 
     private static void losers() {
@@ -292,6 +298,13 @@ public final class Terms2Test {
         Promise08Test.period("octal .123", 5, 5);
         Promise08Test.period("octal .34", 8, 7);
         Promise08Test.period("octal .043", 60, 16);
+        // as far as 2 * e goes: with e alone it would be 7, or 3 from 22 on
+        Promise08Test.period("octal .02373", 8, 21);
+        Promise08Test.period("octal .6", -2, -2);
+        // as far as p goes, too: else 5 from 1 on
+        Promise08Test.period("octal .627", -2, -2);
+        // as far as d goes, too: else 1 from 1 on
+        Promise08Test.period("octal .552", 6, 1);
     }
 
     private static void atMost160() {
@@ -299,7 +312,7 @@ public final class Terms2Test {
         Promise08Test.period("octal .534347", 40, 37);
         // 161: a digit of 0 more is a digit
         Promise08Test.period("octal .5343470", -2, -2);
-        Promise08Test.period("octal .5376760", -2, -2);
+        Promise08Test.period("octal .11633", -2, -2);
         Promise08Test.period("octal .77777777", -2, -2);
     }
 

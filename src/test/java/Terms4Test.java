@@ -239,6 +239,11 @@ public final class Terms4Test {
         }
         LastLoses four = Check.told(Check.DAWSON);
         Check.due("four later", four.power(4, 2, 1), 4);
+        LastLoses third = Check.told("octal .3164;also 5 to 3;also 5 to 1 3");
+        Check.due("the third", third.power(5, 5, 0), 3);
+        Check.due("two later", third.power(5, 5, 1), 2);
+        Check.due("the third of the last", third.power(5, 15, 0), 3);
+        Check.due("one later", third.power(5, 15, 1), 1);
     }
 
     private static void kernel() {
@@ -262,11 +267,14 @@ public final class Terms4Test {
     private static void staysUpTo6() {
         Promise34Test.stays(Check.TAKE_ONE, 6, 6, 6, 6, 6, 6);
         Promise34Test.stays(Check.KAYLES, 1, 4, 4, 4, 5, -3);
+        Promise34Test.stays("octal .7101", 1, 4, 4, 4, -3, 6);
     }
 
     private static void alike() {
         // 14 elements are not 6
         Promise34Test.stays(Quotients.SIXTEEN, 1, 4, 4, 4, 5, 6);
+        // 2 elements are not 4, though as far as they go all is alike
+        Promise34Test.stays("octal .4", 2, 2, 4, 4, 6, 6);
         // six and six elements, but others are lost
         LastLoses lost = Check.told(Quotients.SEVENTEEN);
         Check.due("as many", lost.elements(2), lost.elements(3));
@@ -274,7 +282,7 @@ public final class Terms4Test {
         Check.due("lost of 3", lost.sets(3, 0), 10);
         Check.due("so 2 stays at 2", lost.stays(2), 2);
         // as many, and lost alike, but not by the same heaps
-        LastLoses next = Check.told("octal .31;never 3 2;never 9 1");
+        LastLoses next = Check.told("octal .31");
         Check.due("as many elements", next.elements(4), next.elements(3));
         Check.due("lost alike", next.sets(4, 0), next.sets(3, 0));
         Check.due("next is not", next.stays(3), 3);
