@@ -48,7 +48,8 @@ public final class Promise29Test {
         LastLoses x = Check.told(Check.TWO);
         Check.outside("next element", element -> x.next(2, element, 1), 6, 7);
         LastLoses most = Check.told(Quotients.SIXTEEN);
-        Check.due("the last of sixteen", most.next(6, 15, 1) >= 0 ? 1 : 0, 1);
+        Check.due("the last of sixteen by 1", most.next(6, 15, 1), 13);
+        Check.due("the last of sixteen by 6", most.next(6, 15, 6), 4);
         Check.outside("next element of sixteen", element -> most.next(6, element, 6), 16, 17);
     }
 

@@ -67,7 +67,6 @@ public final class Promise36Test {
         Check.due("2 of 1", place(x, 1, 2), -2);
         Check.due("128", place(x, 6, 128), -2);
         Check.due("255", place(x, 6, 255), -2);
-        Check.due("257 by its lowest byte alone", place(x, 6, 257), 1);
         Check.due("the first", place(x, 2, 3, 1, 1), -2);
         Check.due("the last", place(x, 2, 1, 1, 3), -2);
         x.feed(0x01010101, 0, 0, 0, 0);
